@@ -4,8 +4,8 @@
  */
 public final class ModelRuns {
     private static final int RUNS_PER_SIZE = 500;
-    // A step makes at most two calls, and nothing is promised after the 512th.
-    private static final int STEPS = 256;
+    // Nothing is promised after that call.
+    private static final int LAST_CALL = 512;
     private static final int MOST_TOLD = 20;
 
     private static int wrong = 0;
@@ -16,6 +16,7 @@ public final class ModelRuns {
     private final boolean[][] writable = new boolean[4][8];
     private int current = 0;
     private int last = 0;
+    private int calls = 0;
 
     private ModelRuns() {
         for (int[] row : frames) {
@@ -40,11 +41,11 @@ public final class ModelRuns {
     private static void oneRun(int lines, int buffer, int run) {
         CachedMemory x = new CachedMemory(lines, buffer);
         ModelRuns model = new ModelRuns();
-        for (int step = 0; step < STEPS; step++) {
+        while (model.calls < LAST_CALL) {
             String told = model.oneStep(x, run);
             if (told != null) {
                 wrong++;
-                System.out.println("CachedMemory(" + lines + ", " + buffer + ") run " + run + " step " + step + ": " + told);
+                System.out.println("CachedMemory(" + lines + ", " + buffer + ") run " + run + " call " + model.calls + ": " + told);
                 return;
             }
         }
@@ -104,7 +105,10 @@ public final class ModelRuns {
             case 4: return told("last()", x.last(), last);
             default:
                 String wrongStatus = told("load(" + a + ")", x.load(a), load(a));
-                return wrongStatus != null ? wrongStatus : told("last() after load(" + a + ")", x.last(), last);
+                if (wrongStatus != null || calls == LAST_CALL) {
+                    return wrongStatus;
+                }
+                return told("last() after load(" + a + ")", x.last(), last);
         }
     }
 
@@ -122,7 +126,8 @@ public final class ModelRuns {
         }
     }
 
-    private static String told(String call, int got, int want) {
+    private String told(String call, int got, int want) {
+        calls++;
         return got == want ? null : call + " answered " + got + ", due is " + want;
     }
 
