@@ -110,7 +110,7 @@ public final class CachedMemory {
     }
 
     public int load(int a) {
-        int kept = translationOf(a);
+        int kept = translationOf(a, false);
         if (kept < 0) {
             return kept;
         }
@@ -124,7 +124,7 @@ public final class CachedMemory {
     }
 
     public int store(int a, int value) {
-        int kept = writableTranslationOf(a);
+        int kept = translationOf(a, true);
         if (kept < 0) {
             return kept;
         }
@@ -134,7 +134,7 @@ public final class CachedMemory {
     }
 
     public int add(int a, int value) {
-        int kept = writableTranslationOf(a);
+        int kept = translationOf(a, true);
         if (kept < 0) {
             return kept;
         }
@@ -175,7 +175,7 @@ public final class CachedMemory {
     }
 
     public int translate(int a) {
-        int kept = translationOf(a);
+        int kept = translationOf(a, false);
         if (kept < 0) {
             return kept;
         }
@@ -193,29 +193,22 @@ public final class CachedMemory {
         return n >= 0 && n < bound;
     }
 
-    /** Where the translation of an address of the current space is kept, or BAD or NO_PAGE. */
-    private int translationOf(int a) {
+    /** Where the translation of an address of the current space is kept; or BAD, NO_PAGE or, if it is to be written, READ_ONLY. */
+    private int translationOf(int a, boolean toWrite) {
         if (!isBelow(a, WORDS)) {
             return BAD;
         }
         int entry = current * PAGES + a / PAGE_WORDS;
         int kept = findTranslation(entry);
-        if (kept != NONE) {
-            return kept;
-        }
-        if (!entryUsed[entry]) {
+        if (kept == NONE && !entryUsed[entry]) {
             return NO_PAGE;
         }
-        return keepTranslation(entry);
-    }
-
-    /** As translationOf, but READ_ONLY where the page may not be written. */
-    private int writableTranslationOf(int a) {
-        int kept = translationOf(a);
-        if (kept >= 0 && !keptWritable[kept]) {
+        boolean writable = kept == NONE ? entryWritable[entry] : keptWritable[kept];
+        // Before anything is kept, for a refused call changes nothing, not even the buffer.
+        if (toWrite && !writable) {
             return READ_ONLY;
         }
-        return kept;
+        return kept == NONE ? keepTranslation(entry) : kept;
     }
 
     private int physicalWord(int kept, int a) {
